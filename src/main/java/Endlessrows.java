@@ -198,7 +198,7 @@ public final class Endlessrows {
 
     public int again(int well) throws IndexOutOfBoundsException {
         Well asked = findWell(well);
-        if (asked.isEmpty() || asked.closed != 0) {
+        if (asked.isEmpty() || asked.closedRows != 0) {
             return REFUSED;
         }
         int times = asked.drawn;
@@ -245,7 +245,7 @@ public final class Endlessrows {
             case 6: return asked.lastPlace(3);
             case 7: return !asked.isEmpty() && asked.isDry() ? 1 : 0;
             case 8: return asked.limit();
-            default: return Integer.bitCount(asked.closed);
+            default: return asked.closedRows;
         }
     }
 
@@ -428,7 +428,7 @@ public final class Endlessrows {
 
     private static boolean hasToldNoMoreThanIs(Well well) {
         int last = well.lastNumber();
-        if (last == NONE || well.closed != 0 || !well.canCountTo(last)) {
+        if (last == NONE || well.closedRows != 0 || !well.canCountTo(last)) {
             return true;
         }
         return well.drawn <= well.countUpTo(last);
@@ -620,7 +620,8 @@ public final class Endlessrows {
         private int kind = NONE;
         private int set;
         private boolean isFalling;
-        private int closed;
+        // A row is closed once at most: nothing of it waits then.
+        private int closedRows;
         private int drawn;
         private int lastKey;
 
@@ -653,7 +654,7 @@ public final class Endlessrows {
 
         void restart() {
             queue.size = 0;
-            closed = 0;
+            closedRows = 0;
             drawn = 0;
             lastKey = 0;
             if (kind == POWERS) {
@@ -673,7 +674,7 @@ public final class Endlessrows {
             kind = other.kind;
             set = other.set;
             isFalling = other.isFalling;
-            closed = other.closed;
+            closedRows = other.closedRows;
             drawn = other.drawn;
             lastKey = other.lastKey;
         }
@@ -765,7 +766,7 @@ public final class Endlessrows {
                 int tag = tagAt(row, place, 0);
                 if (queue.holds(tag)) {
                     queue.remove(tag);
-                    closed |= 1 << row;
+                    closedRows++;
                     return rows[row].count - place;
                 }
             }
@@ -798,7 +799,7 @@ public final class Endlessrows {
         /** The number behind n more; what stands here is told on to it. */
         int numberBehind(int n) {
             tellBelow(ABOVE_ALL, n);
-            return isDry() || drawn < n ? NONE : nextNumber();
+            return isDry() ? NONE : nextNumber();
         }
 
         int lastNumber() {

@@ -217,6 +217,8 @@ public final class PromisesTest {
             due(both[k], () -> x.least(5, k));
         }
         due(0, () -> x.least(32, 0));
+        due(5, () -> x.least(1, 0));
+        due(NONE, () -> x.least(1, 3));
         due(0, () -> x.least(63, 0));
         due(NONE, () -> x.least(2, 0));
         due(NONE, () -> x.least(63, 47));
@@ -252,6 +254,20 @@ public final class PromisesTest {
         due("0 5 0 28561 -1 -1 -1 1 1 0", () -> answers(x, 1));
         due(1, () -> x.powers(1, 4));
         due("1 5 25 125 625 3125 15625 78125", () -> x.text(1));
+        // 100000 itself is in the course, told last here, and waits for 20000.
+        due(1, () -> x.powers(2, 5));
+        due(20, () -> x.draws(2, 20));
+        due(20, () -> x.draws(2, 20));
+        due(20, () -> x.draws(2, 20));
+        due(100000, () -> x.nth(2, x.upTo(2, 1000000) - 1));
+        for (int i = 0; i < 2; i++) {
+            x.skip(2, 100000);
+        }
+        due(1, () -> x.ofWell(2, 2));
+        due("100000", () -> x.text(2));
+        due(100000, () -> x.draw(2));
+        due(x.upTo(2, 100000), () -> x.ofWell(2, 1));
+        due(1, () -> x.ofWell(2, 7));
         due(5, () -> x.powers(2, 5) + x.draws(2, 4));
         due("8 10 16 20 25 32 40 50", () -> x.text(2));
         due(OUT_OF_BOUNDS, () -> x.powers(-1, 1));
@@ -306,6 +322,13 @@ public final class PromisesTest {
         due(512, () -> x.upTo(0, 1000000));
         due(1, () -> x.draws(0, 1));
         due("2 1 3 15 0 0 0 0 3 0", () -> answers(x, 0));
+        x.fill(5, 1, 1, 2);
+        due(1, () -> x.triples(0, 5, 4, 4));
+        due(20, () -> x.draws(0, 20));
+        due(16, () -> x.ofWell(0, 8));
+        due(1, () -> x.triples(0, 4, 4, 5));
+        due(20, () -> x.draws(0, 20));
+        due(41, () -> x.ofWell(0, 8));
         due(0, () -> x.triples(0, 3, 4, 4));
         due(0, () -> x.triples(0, 4, 3, 4));
         due("2 0 0 -1 -1 -1 -1 1 0 0", () -> answers(x, 0));
@@ -791,6 +814,7 @@ public final class PromisesTest {
         put(x, 1, 1, 2, 6);
         due(REFUSED, () -> x.waits(0, 1));
         x.sums(0, 0, 1);
+        due(0, () -> x.waits(0, 0));
         due(0, () -> x.waits(0, 1));
         due(1, () -> x.waits(0, 2));
         x.draw(0);
@@ -849,6 +873,10 @@ public final class PromisesTest {
         due(0, () -> x.isWaiting(3, 5, 0, 5));
         due(0, () -> x.isWaiting(3, 6, 0, 0));
         due(0, () -> x.isWaiting(3, 4, 0, 0));
+        // 5 less 6 and one place on must not be taken for the row 0.
+        due(0, () -> x.isWaiting(3, 6, 8, 0));
+        due(0, () -> x.isWaiting(3, -1, 8, 0));
+        due(0, () -> x.isWaiting(3, 0, -1, 0));
         due("1@1,0,-1", () -> drawnWithPlaces(x, 3, 1));
         due(0, () -> x.isWaiting(3, 1, 0, 0));
         due(1, () -> x.isWaiting(3, 1, 1, 0));
