@@ -33,7 +33,7 @@ public final class Endlessrows {
     private final Well[] wells = new Well[WELLS];
     // Questions are tried out in these two, so that no well of the face is changed by being asked.
     private final Well trial = new Well();
-    private final Well shaken = new Well();
+    private final Well otherTrial = new Well();
     private int knocks;
 
     public Endlessrows() {
@@ -304,13 +304,20 @@ public final class Endlessrows {
     }
 
     public String text(int well) throws IndexOutOfBoundsException {
-        return nextNumbers(findWell(well));
+        trial.become(findWell(well));
+        StringBuilder line = new StringBuilder();
+        for (int told = 0; told < TEXT_NUMBERS && !trial.isDry(); told++) {
+            appendNumber(line, trial.tell());
+        }
+        return line.toString();
     }
 
     public boolean isAlike(int first, int second) throws IndexOutOfBoundsException {
         Well one = findWell(first);
         Well other = findWell(second);
-        return nextNumbers(one).equals(nextNumbers(other));
+        trial.become(one);
+        otherTrial.become(other);
+        return doTrialsTellAlike();
     }
 
     // ---- all of it
@@ -334,19 +341,15 @@ public final class Endlessrows {
     }
 
     public boolean isSound() {
-        for (int row = 0; row < rows.length; row++) {
-            if (!rows[row].isRising()) {
-                return false;
-            }
-        }
-        for (int well = 0; well < wells.length; well++) {
-            if (wells[well].queue.size > wells[well].limit()) {
-                return false;
-            }
+        if (!areRowsRising() || !areQueuesWithinLimits()) {
+            return false;
         }
         for (int well = 0; well < wells.length; well++) {
             if (!wells[well].isEmpty()) {
-                return hasToldNoMoreThanIs(wells[well]) && staysAlikeWhenShaken(wells[well]);
+                trial.become(wells[well]);
+                otherTrial.become(wells[well]);
+                otherTrial.queue.turnOver();
+                return hasToldNoMoreThanIs(wells[well]) && doTrialsTellAlike();
             }
         }
         return true;
@@ -408,13 +411,17 @@ public final class Endlessrows {
         line.append(number);
     }
 
-    private String nextNumbers(Well asked) {
-        trial.become(asked);
-        StringBuilder line = new StringBuilder();
-        for (int told = 0; told < TEXT_NUMBERS && !trial.isDry(); told++) {
-            appendNumber(line, trial.tell());
+    /** Whether the texts of both trials are the same; both are told on by it. */
+    private boolean doTrialsTellAlike() {
+        for (int told = 0; told < TEXT_NUMBERS; told++) {
+            if (trial.isDry() || otherTrial.isDry()) {
+                return trial.isDry() && otherTrial.isDry();
+            }
+            if (trial.tell() != otherTrial.tell()) {
+                return false;
+            }
         }
-        return line.toString();
+        return true;
     }
 
     private static int shareOf(Well well, int what) {
@@ -426,18 +433,30 @@ public final class Endlessrows {
         }
     }
 
+    private boolean areRowsRising() {
+        for (int row = 0; row < rows.length; row++) {
+            if (!rows[row].isRising()) {
+                return false;
+            }
+        }
+        return true;
+    }
+
+    private boolean areQueuesWithinLimits() {
+        for (int well = 0; well < wells.length; well++) {
+            if (wells[well].queue.size > wells[well].limit()) {
+                return false;
+            }
+        }
+        return true;
+    }
+
     private static boolean hasToldNoMoreThanIs(Well well) {
         int last = well.lastNumber();
         if (last == NONE || well.closedRows != 0 || !well.canCountTo(last)) {
             return true;
         }
         return well.drawn <= well.countUpTo(last);
-    }
-
-    private boolean staysAlikeWhenShaken(Well well) {
-        shaken.become(well);
-        shaken.queue.turnOver();
-        return nextNumbers(shaken).equals(nextNumbers(well));
     }
 
     /** At most eight numbers, none less than the one ahead of it. */
@@ -688,14 +707,22 @@ public final class Endlessrows {
         // -- telling
 
         int tell() {
+            drawn++;
             if (kind == PRIMES) {
                 tellPrime();
-            } else {
-                lastKey = queue.pop();
-                offerChildren(Queue.numberOf(lastKey), Queue.tagOf(lastKey));
+                return Queue.numberOf(lastKey);
             }
-            drawn++;
-            return Queue.numberOf(lastKey);
+            lastKey = queue.pop();
+            int number = Queue.numberOf(lastKey);
+            int tag = Queue.tagOf(lastKey);
+            if (kind == POWERS) {
+                offerProducts(number, tag);
+            } else if (kind == MERGED) {
+                offerOfRow(rankOf(tag / (GRID * GRID)), tag / GRID % GRID + 1);
+            } else {
+                offerNeighbours(tag / (GRID * GRID), tag / GRID % GRID, tag % GRID);
+            }
+            return number;
         }
 
         int tellBelow(int bound, int times) {
@@ -715,16 +742,6 @@ public final class Endlessrows {
             }
             lastKey = Queue.keyOf(prime, prime);
             queue.push(Queue.keyOf(prime * prime, prime));
-        }
-
-        private void offerChildren(int number, int tag) {
-            if (kind == POWERS) {
-                offerProducts(number, tag);
-            } else if (kind == MERGED) {
-                offerOfRow(rankOf(tag / (GRID * GRID)), tag / GRID % GRID + 1);
-            } else {
-                offerNeighbours(tag / (GRID * GRID), tag / GRID % GRID, tag % GRID);
-            }
         }
 
         private void offerProducts(int number, int greatestBase) {
