@@ -420,6 +420,14 @@ public final class EdgesOfQuestionsTest extends Edges {
                 x -> x.isWaiting(0, edge, 0, 0) + " " + x.isWaiting(0, 0, edge, 0));
             due("0 0", MERGED, x -> x.isWaiting(0, edge, 0, 0) + " " + x.isWaiting(0, 0, edge, 0));
         }
+        // The 8th one of a row is no place less of the next row, and the 9th is not its first.
+        Run eighth = told(inTurn(ROWS, x -> x.triples(0, 0, 3, 3)), 28);
+        due("1 0", eighth, x -> x.isWaiting(0, 0, 0, 7) + " " + x.isWaiting(0, 0, 1, -1));
+        Run eighthOfSums = told(inTurn(ROWS, x -> x.sums(0, 0, 3)), 13);
+        due("1 0 1 0", eighthOfSums, x -> x.isWaiting(0, 0, 7, 0) + " " + x.isWaiting(0, 1, -1, 0) + " "
+            + x.isWaiting(0, 3, 0, 0) + " " + x.isWaiting(0, 2, 8, 0));
+        Run eighthOfMerged = told(inTurn(ROWS, x -> x.merge(0, 24, false)), 7);
+        due("1 0", eighthOfMerged, x -> x.isWaiting(0, 3, 7, 0) + " " + x.isWaiting(0, 4, -1, 0));
         changesNothing(x -> x.isWaiting(0, 0, 0, 0));
         changesNothing(x -> x.isWaiting(1, -1, 9, 9));
     }

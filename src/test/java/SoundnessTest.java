@@ -135,6 +135,13 @@ public final class SoundnessTest extends Edges {
         due("3 1 2 4", inTurn(TWO_WAIT, x -> swapFirstTwoKeys(x, 1), x -> x.isSound()), x -> x.text(1));
     }
 
+    @Says(promise = 20, words = "come into a new queue")
+    private static void shakeMakesANewQueue() {
+        Run spoilt = inTurn(TWO_WAIT, x -> swapFirstTwoKeys(x, 1));
+        due("1 2 3 4", spoilt, x -> x.shake(1) == 2 ? x.text(1) : "");
+        due(true, inTurn(spoilt, x -> x.shake(1)), x -> x.isSound());
+    }
+
     @Says(promise = 37, words = "of the first WELL that is not EMPTY")
     private static void wellsBehindTheFirstAreNotLookedAt() {
         due(true, inTurn(TOLD, x -> set(well(x, 3), "drawn", 4)), x -> x.isSound());

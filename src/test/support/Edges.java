@@ -284,21 +284,32 @@ abstract class Edges {
         unchanged(run, call);
     }
 
-    /** What is just within is let, what is just outside throws. */
+    /** What is just within is let, what is just outside throws, behind the run and on a new object. */
     static void boundsAre(int lowest, int highest, Run run, CallWith call) {
-        isLet(run, x -> call.on(x, lowest));
-        isLet(run, x -> call.on(x, highest));
-        for (int number : new int[] {lowest - 1, highest + 1, Integer.MIN_VALUE, Integer.MAX_VALUE}) {
+        isLetWithin(lowest, highest, run, call);
+        for (int number : outside(lowest, highest)) {
             outOfBounds(run, x -> call.on(x, number));
+            outOfBounds(NOTHING, x -> call.on(x, number));
         }
     }
 
     /** As boundsAre, for what the document calls illegal. */
     static void legalAre(int lowest, int highest, Run run, CallWith call) {
-        isLet(run, x -> call.on(x, lowest));
-        isLet(run, x -> call.on(x, highest));
-        for (int number : new int[] {lowest - 1, highest + 1, Integer.MIN_VALUE, Integer.MAX_VALUE}) {
+        isLetWithin(lowest, highest, run, call);
+        for (int number : outside(lowest, highest)) {
             illegal(run, x -> call.on(x, number));
+            illegal(NOTHING, x -> call.on(x, number));
+        }
+    }
+
+    private static int[] outside(int lowest, int highest) {
+        return new int[] {lowest - 1, highest + 1, Integer.MIN_VALUE, Integer.MAX_VALUE};
+    }
+
+    private static void isLetWithin(int lowest, int highest, Run run, CallWith call) {
+        for (int number : new int[] {lowest, highest}) {
+            isLet(run, x -> call.on(x, number));
+            isLet(NOTHING, x -> call.on(x, number));
         }
     }
 
